@@ -871,7 +871,7 @@ public final class RamStation {
         }
 
         void add(int number) {
-            if (outside(next, 0, places.length - 1)) {
+            if (next < 0 || next >= places.length) {
                 next = 0;
             }
             places[next] = number;

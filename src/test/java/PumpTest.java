@@ -129,16 +129,9 @@ public final class PumpTest {
             x.pass(1);
             DUE.due("speed", x.speed(0), speed);
         }
-        x = new RamStation();
-        x.addPump(99, 10, 1, 100, 500);
-        x.setValve(0, 2, 500);
-        x.setInflow(500);
-        x.start(0);
-        int[] rubbing = {990, 1000, 990, 1000};
-        for (int speed : rubbing) {
-            x.pass(1);
-            DUE.due("speed with friction", x.speed(0), speed);
-        }
+        speedsWithFriction(100, new int[] {990, 1000, 990, 1000});
+        // The last loss is 44 * 1484 * 1484 / 100000 = 968, with a remainder of 99264.
+        speedsWithFriction(44, new int[] {990, 1549, 1484, 1506});
         x = new RamStation();
         x.addPump(10, 400, 1, 0, 11);
         x.setValve(0, 0, 3);
@@ -149,6 +142,18 @@ public final class PumpTest {
             x.pass(1);
             DUE.due("slow speed", x.speed(0), slow[i]);
             DUE.due("its phase", x.phase(0), phases[i]);
+        }
+    }
+
+    private static void speedsWithFriction(int friction, int[] speeds) {
+        RamStation x = new RamStation();
+        x.addPump(99, 10, 1, friction, 500);
+        x.setValve(0, 2, 500);
+        x.setInflow(500);
+        x.start(0);
+        for (int speed : speeds) {
+            x.pass(1);
+            DUE.due("speed with a friction of " + friction, x.speed(0), speed);
         }
     }
 

@@ -12,6 +12,7 @@ public final class TrialsTest {
         enoughWater();
         period();
         bestLength();
+        greatestLength();
         bestSetting();
         bestFromRest();
         allEqual();
@@ -197,6 +198,17 @@ public final class TrialsTest {
                         withPump(p[0], p[1], p[2], p[3], p[4]).bestLength(0, n), best);
             }
         }
+    }
+
+    // With a timed valve the water has too much speed in all but the longest pipe.
+    private static void greatestLength() {
+        RamStation x = withPump(17, 50, 16, 0, 18);
+        x.setValve(0, 2, 40);
+        DUE.due("bestLength", x.bestLength(0, 300), 400);
+        int own = x.deliveredIn(0, 300);
+        RamStation longest = withPump(17, 400, 16, 0, 18);
+        longest.setValve(0, 2, 40);
+        DUE.due("the longest delivers more", longest.deliveredIn(0, 300) > own ? 1 : 0, 1);
     }
 
     // Promise 46
