@@ -7,6 +7,9 @@ public final class PumpTest {
         noSuchPump();
         aBeat();
         strongBeat();
+        fullChamber();
+        oneLiterRelieved();
+        headLikeTheLift();
         starving();
         speeds();
         intervals();
@@ -100,6 +103,37 @@ public final class PumpTest {
         counts(x, 1, 0, 1935, 39, 0);
         DUE.due("basin", x.basin(), 3220);
         DUE.due("efficiency", x.efficiency(0), 99);
+    }
+
+    // The chamber of 400 liters takes 360: a head of 897 delivers 1 + 397 / 10.
+    private static void fullChamber() {
+        RamStation x = new RamStation();
+        x.addPump(99, 10, 20, 0, 500);
+        x.start(0);
+        x.pass(2);
+        flow(x, 1, 0, 0, 320, 399, 398);
+        counts(x, 1, 0, 1620, 40, 0);
+    }
+
+    private static void oneLiterRelieved() {
+        RamStation x = new RamStation();
+        x.addPump(23, 100, 20, 0, 500);
+        x.setChamber(0, 50, false);
+        x.setValve(0, 2, 1);
+        x.start(0);
+        x.pass(2);
+        counts(x, 1, 0, 1, 39, 0);
+        DUE.due("an incident", x.incidents(), 1);
+        DUE.due("of kind 2", x.incidentKind(0), 2);
+    }
+
+    private static void headLikeTheLift() {
+        RamStation x = new RamStation();
+        x.addPump(20, 50, 5, 0, 24);
+        x.start(0);
+        x.pass(4);
+        flow(x, 2, 70, 2, 79, 399, 24);
+        counts(x, 1, 20, 0, 0, 0);
     }
 
     private static void starving() {
@@ -210,6 +244,7 @@ public final class PumpTest {
         DUE.due("no more than 32", x.trace(0, 32), NONE);
         x.pass(1);
         DUE.due("now the second", x.trace(0, 31), 80);
+        DUE.due("the first is no more kept", x.trace(0, 32), NONE);
         DUE.due("far back", x.trace(0, Integer.MAX_VALUE), NONE);
     }
 
@@ -257,15 +292,20 @@ public final class PumpTest {
         x.pass(2);
         DUE.due("an efficiency of 0", x.efficiency(3), 0);
         DUE.due("the only one", x.bestPump(), 3);
+        x.stop(3);
         x.start(1);
         x.start(2);
         x.pass(40);
         DUE.due("equal ones", x.efficiency(2), x.efficiency(1));
-        int best = x.efficiency(3) > x.efficiency(1) ? 3 : 1;
-        DUE.due("the best, the first of the equal ones", x.bestPump(), best);
-        x.stop(3);
-        x.pass(200);
-        DUE.due("then", x.efficiency(1) > x.efficiency(3) ? 1 : 3, x.bestPump());
+        DUE.due("above 0", x.efficiency(1) > 0 ? 1 : 0, 1);
+        DUE.due("the first of the equal ones, not a lower one behind them", x.bestPump(), 1);
+        x.stop(1);
+        x.stop(2);
+        x.setValve(0, 2, 500);
+        x.start(0);
+        x.pass(30);
+        DUE.due("pump 0 is worse", x.efficiency(0) < x.efficiency(1) ? 1 : 0, 1);
+        DUE.due("though it is first", x.bestPump(), 1);
         RamStation y = new RamStation();
         y.addPump(20, 50, 5, 0, 30);
         y.addPump(20, 50, 5, 0, 30);
@@ -274,5 +314,12 @@ public final class PumpTest {
         y.start(0);
         y.pass(2);
         DUE.due("the greater one has the higher number", y.bestPump(), 1);
+        y.undo();
+        y.undo();
+        y.stop(1);
+        y.start(0);
+        y.pass(30);
+        DUE.due("both alike", y.efficiency(0), y.efficiency(1));
+        DUE.due("pump 0", y.bestPump(), 0);
     }
 }

@@ -20,6 +20,8 @@ public final class SettingsTest {
         pass();
         passToTheEnd();
         undo();
+        undoOfEveryValue();
+        everyActIsRecorded();
         undoKeepsEight();
         undoLeavesRecords();
         DUE.end();
@@ -131,7 +133,7 @@ public final class SettingsTest {
     // The speed is 40 more in each tick.
     private static void slamRules() {
         int[][] kindSettingTick = {{0, 40, 1}, {0, 41, 2}, {0, 80, 2}, {0, 81, 3}, {0, 500, 13}, {1, 16, 1},
-            {1, 17, 2}, {1, 64, 2}, {1, 65, 3}, {1, 500, 6}, {2, 1, 1}, {2, 3, 3}, {2, 500, 500}};
+            {1, 17, 2}, {1, 64, 2}, {1, 65, 3}, {1, 144, 3}, {1, 145, 4}, {1, 500, 6}, {2, 1, 1}, {2, 3, 3}, {2, 500, 500}};
         for (int[] rule : kindSettingTick) {
             RamStation x = withPump();
             x.setValve(0, rule[0], rule[1]);
@@ -311,6 +313,74 @@ public final class SettingsTest {
         int first = x.pass(150);
         x.undo();
         DUE.due("the same again", x.pass(150), first);
+    }
+
+    private static int[] everyValue(RamStation x) {
+        return new int[] {x.time(), x.basin(), x.spilled(), x.pumps(), x.phase(0), x.speed(0), x.openTicks(0),
+            x.chamberWater(0), x.air(0), x.beats(0), x.wasted(0), x.relieved(0), x.lifted(0), x.overflowed(0),
+            x.starved(0), x.tank(0), x.interval(0, 0), x.interval(0, 1), x.interval(0, 2), x.trace(0, 0),
+            x.trace(0, 1), x.efficiency(0)};
+    }
+
+    // A pump that starves, relieves and overflows.
+    private static void undoOfEveryValue() {
+        RamStation x = new RamStation();
+        x.addPump(99, 10, 8, 0, 100);
+        x.setChamber(0, 60, true);
+        x.setInflow(500);
+        x.pass(40);
+        x.start(0);
+        int[] before = everyValue(x);
+        boolean[] changed = new boolean[before.length];
+        for (int i = 0; i < 7; i++) {
+            x.pass(200);
+            int[] now = everyValue(x);
+            for (int v = 0; v < before.length; v++) {
+                changed[v] |= now[v] != before[v];
+            }
+        }
+        for (int i = 0; i < 7; i++) {
+            x.undo();
+        }
+        int[] after = everyValue(x);
+        for (int v = 0; v < before.length; v++) {
+            DUE.due("value " + v + " after seven undos", after[v], before[v]);
+        }
+        DUE.due("relieved has changed", changed[11] ? 1 : 0, 1);
+        DUE.due("overflowed has changed", changed[13] ? 1 : 0, 1);
+        DUE.due("starved has changed", changed[14] ? 1 : 0, 1);
+        x.pass(1);
+        DUE.due("the time of the start is restored", x.interval(0, 0), 0);
+    }
+
+    private static void everyActIsRecorded() {
+        RamStation x = new RamStation();
+        x.addPump(20, 50, 5, 0, 30);
+        DUE.due("addPump", x.undo(), 0);
+        x.addPump(20, 50, 5, 0, 30);
+        x.setValve(0, 0, 60);
+        DUE.due("setValve", x.undo(), 1);
+        x.setChamber(0, 400, false);
+        DUE.due("setChamber", x.undo(), 1);
+        x.setInflow(100);
+        DUE.due("setInflow", x.undo(), 1);
+        x.start(0);
+        x.stop(0);
+        DUE.due("stop", x.undo(), 2);
+        DUE.due("it runs", x.phase(0), 1);
+        x.pass(24);
+        x.emptyTank(0);
+        DUE.due("emptyTank", x.undo(), 3);
+        DUE.due("pass", x.undo(), 2);
+        DUE.due("start", x.undo(), 1);
+        x.type('w');
+        x.type('1');
+        x.syntaxError();
+        DUE.due("execute", x.execute(), 1);
+        DUE.due("execute", x.undo(), 1);
+        DUE.due("errors are none", x.stop(0) + x.pass(0), NOT_POSSIBLE + BAD_VALUE);
+        DUE.due("addPump", x.undo(), 0);
+        DUE.due("no more", x.undo(), RamStation.NONE);
     }
 
     private static void undoKeepsEight() {

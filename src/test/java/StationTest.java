@@ -102,7 +102,11 @@ public final class StationTest {
         RamStation x = new RamStation();
         x.addPump(20, 50, 5, 0, 30);
         x.setChamber(0, 400, true);
+        x.addPump(10, 400, 1, 0, 11);
+        x.setChamber(1, 400, true);
+        x.setValve(1, 2, 1);
         x.start(0);
+        x.start(1);
         int delivered = 0;
         for (int i = 0; i < 60 && delivered + 14 * 200 <= 30000; i++) {
             delivered += x.pass(200);

@@ -14,6 +14,7 @@ public final class TrialsTest {
         bestLength();
         greatestLength();
         bestSetting();
+        greatestSetting();
         bestFromRest();
         allEqual();
         DUE.end();
@@ -160,6 +161,7 @@ public final class TrialsTest {
         x.setChamber(0, 2000, false);
         DUE.due("1800 slams are not in 2000 ticks", x.period(0), NONE);
         periodNearTheEnd();
+        periodOfThreeBeats();
         RamStation y = withPump(20, 50, 5, 0, 30);
         y.start(0);
         y.pass(124);
@@ -176,6 +178,21 @@ public final class TrialsTest {
         DUE.due("the least space of 739 is reached in slam 666, the next is like it", x.period(0), 3);
         x.setChamber(0, 741, false);
         DUE.due("in slam 667, the last", x.period(0), NONE);
+    }
+
+    // The intervals are 15, 15 and 16 in turn.
+    private static void periodOfThreeBeats() {
+        RamStation x = withPump(69, 350, 1, 0, 70);
+        x.setChamber(0, 400, true);
+        x.setValve(0, 1, 60);
+        DUE.due("period", x.period(0), 46);
+        x.start(0);
+        x.pass(200);
+        DUE.due("period", x.period(0), 46);
+        for (int i = 0; i < 6; i++) {
+            DUE.due("interval", x.interval(0, i), x.interval(0, i + 3));
+        }
+        DUE.due("three intervals", x.interval(0, 0) + x.interval(0, 1) + x.interval(0, 2), 46);
     }
 
     // Promise 45: each length in a station of its own, at rest.
@@ -233,6 +250,16 @@ public final class TrialsTest {
                 }
             }
         }
+    }
+
+    private static void greatestSetting() {
+        RamStation x = withPump(20, 200, 1, 0, 41);
+        x.setChamber(0, 400, true);
+        DUE.due("bestSetting", x.bestSetting(0, 300), 500);
+        x.setValve(0, 0, 500);
+        DUE.due("delivers", x.deliveredIn(0, 300), 1057);
+        x.setValve(0, 0, 490);
+        DUE.due("a lower one less", x.deliveredIn(0, 300), 1052);
     }
 
     // A trial from rest keeps the water and the air of the chamber, but not the speed.
