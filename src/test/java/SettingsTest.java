@@ -325,7 +325,7 @@ public final class SettingsTest {
     // A pump that starves, relieves and overflows.
     private static void undoOfEveryValue() {
         RamStation x = new RamStation();
-        x.addPump(99, 10, 8, 0, 100);
+        x.addPump(99, 10, 11, 0, 100);
         x.setChamber(0, 60, true);
         x.setInflow(500);
         x.pass(40);
