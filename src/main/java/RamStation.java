@@ -176,7 +176,10 @@ public final class RamStation {
         }
         recordNext--;
         recordedCount--;
-        state.copyFrom(recorded[recordNext]);
+        State latest = recorded[recordNext];
+        if (latest != null) {
+            state.copyFrom(latest);
+        }
         return recordedCount;
     }
 
@@ -483,7 +486,10 @@ public final class RamStation {
         if (outside(recordNext, 0, recorded.length - 1)) {
             recordNext = 0;
         }
-        recorded[recordNext].copyFrom(state);
+        State place = recorded[recordNext];
+        if (place != null) {
+            place.copyFrom(state);
+        }
         recordNext++;
         if (recordedCount < recorded.length) {
             recordedCount++;
@@ -602,8 +608,9 @@ public final class RamStation {
 
         int runningPumps() {
             int running = 0;
-            for (int i = 0; i < pumpCount && i < pumps.length; i++) {
-                if (pumps[i].running) {
+            for (int i = 0; i < pumpCount; i++) {
+                Pump pump = pumpAt(i);
+                if (pump != null && pump.running) {
                     running++;
                 }
             }
@@ -622,8 +629,12 @@ public final class RamStation {
             spilled = other.spilled;
             inflow = other.inflow;
             pumpCount = other.pumpCount;
-            for (int i = 0; i < pumpCount && i < pumps.length && i < other.pumps.length; i++) {
-                pumps[i].copyFrom(other.pumps[i]);
+            for (int i = 0; i < pumpCount; i++) {
+                Pump mine = pumpAt(i);
+                Pump its = other.pumpAt(i);
+                if (mine != null && its != null) {
+                    mine.copyFrom(its);
+                }
             }
         }
     }

@@ -1,6 +1,7 @@
 /** Counts and prints the answers that are not the ones that are due. */
 final class Due {
     private final String test;
+    private String sentence = "";
     private int asked;
     private int wrong;
 
@@ -8,14 +9,27 @@ final class Due {
         this.test = test;
     }
 
+    /** Names the sentence of the document that the answers after this are due by. */
+    void sentence(String words) {
+        sentence = " [" + words + "]";
+    }
+
     void due(String call, long got, long want) {
         asked++;
         if (got != want) {
             wrong++;
             if (wrong <= 50) {
-                System.out.println(test + ": " + call + " answered " + got + ", due is " + want);
+                System.out.println(test + sentence + ": " + call + " answered " + got + ", due is " + want);
             }
         }
+    }
+
+    void due(String call, boolean holds) {
+        due(call, holds, true);
+    }
+
+    void due(String call, boolean got, boolean want) {
+        due(call, got ? 1 : 0, want ? 1 : 0);
     }
 
     int wrong() {

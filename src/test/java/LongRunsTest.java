@@ -51,7 +51,11 @@ public final class LongRunsTest {
         return below(25) == 0 ? around(-1, 5) : below(Math.max(model.pumps(), 1));
     }
 
+    // What calls after the 512th answer is free.
     private void same(String call, long got, long want) {
+        if (calls >= CALLS) {
+            return;
+        }
         due.due("run " + run + ", call " + calls + ": " + call, got, want);
         calls++;
     }
