@@ -33,8 +33,11 @@ public final class TrialBoundsTest {
         periodOfNoSlam();
         equalLengths();
         leastLength();
+        greatestLength();
+        otherLengths();
         equalSettings();
         leastSetting();
+        greatestSetting();
         presentKind();
         DUE.end();
     }
@@ -477,6 +480,28 @@ public final class TrialBoundsTest {
         }
     }
 
+    // With 40 open ticks the water gains too much speed in all but the longest pipe.
+    private static void greatestLength() {
+        DUE.sentence("the lengths 10, 20, 30 and so on, up to 400, are compared: 400");
+        RamStation x = timed(17, 50, 16, 18, 40);
+        DUE.due("bestLength", x.bestLength(0, 300), 400);
+        int most = timed(17, 400, 16, 18, 40).deliveredIn(0, 300);
+        for (int length = 10; length < 400; length += 10) {
+            DUE.due("400 delivers more than " + length, most > timed(17, length, 16, 18, 40).deliveredIn(0, 300));
+        }
+    }
+
+    private static void otherLengths() {
+        DUE.sentence("the lengths 10, 20, 30 and so on, up to 400, are compared: no other one");
+        RamStation x = timed(30, 13, 1, 40, 9);
+        x.setChamber(0, 400, true);
+        DUE.due("bestLength", x.bestLength(0, 20), 10);
+        DUE.due("13 delivers", x.deliveredIn(0, 20), 158);
+        RamStation best = timed(30, 10, 1, 40, 9);
+        best.setChamber(0, 400, true);
+        DUE.due("10 delivers", best.deliveredIn(0, 20), 142);
+    }
+
     private static void equalSettings() {
         DUE.sentence("the least one if there are several");
         DUE.due("all alike", withChamberWater().bestSetting(0, 1), 10);
@@ -496,6 +521,20 @@ public final class TrialBoundsTest {
         }
         x.setValve(0, 2, 9);
         DUE.due("9 would deliver more, but is not compared", x.deliveredIn(0, 300) > delivered);
+    }
+
+    private static void greatestSetting() {
+        DUE.sentence("the settings 10, 20, 30 and so on, up to 500, are compared: 500");
+        RamStation x = new RamStation();
+        x.addPump(20, 200, 1, 0, 41);
+        x.setChamber(0, 400, true);
+        DUE.due("bestSetting", x.bestSetting(0, 300), 500);
+        x.setValve(0, 0, 500);
+        int most = x.deliveredIn(0, 300);
+        for (int setting = 10; setting < 500; setting += 10) {
+            x.setValve(0, 0, setting);
+            DUE.due("500 delivers more than " + setting, most > x.deliveredIn(0, 300));
+        }
     }
 
     private static void presentKind() {
