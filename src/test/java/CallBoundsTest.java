@@ -69,7 +69,8 @@ public final class CallBoundsTest {
         DUE.due("99", added(99, 50, 5, 10, 200), 0);
         DUE.due("100", added(100, 50, 5, 10, 200), BAD_VALUE);
         DUE.due("-10", added(-10, 50, 5, 10, 200), BAD_VALUE);
-        DUE.due("the largest int, whose successor is the least one", added(Integer.MAX_VALUE, 50, 5, 10, 200), BAD_VALUE);
+        DUE.due("the largest int, whose successor is the least one", added(Integer.MAX_VALUE, 50, 5, 10, 200),
+                BAD_VALUE);
     }
 
     private static void driveLength() {

@@ -45,7 +45,7 @@ public final class RefusalsTest {
     }
 
     /** Pump 0 runs and is closed, pump 1 stands with water in chamber and tank, pump 2 is new; 8 states. */
-    private static RamStation busy() {
+    static RamStation busy() {
         RamStation x = new RamStation();
         x.addPump(99, 10, 20, 0, 100);
         x.setChamber(0, 2000, false);
@@ -147,7 +147,8 @@ public final class RefusalsTest {
             for (int value : wrong[i]) {
                 int[] a = good.clone();
                 a[i] = value;
-                busyRefuses("addPump with " + value + " at " + i, x -> x.addPump(a[0], a[1], a[2], a[3], a[4]), BAD_VALUE);
+                busyRefuses("addPump with " + value + " at " + i, x -> x.addPump(a[0], a[1], a[2], a[3], a[4]),
+                        BAD_VALUE);
             }
         }
         busyRefuses("addPump with all wrong", x -> x.addPump(MOST, MOST, MOST, MOST, MOST), BAD_VALUE);
@@ -177,7 +178,8 @@ public final class RefusalsTest {
                 busyRefuses("setValve " + pump + ", kind " + kind, x -> x.setValve(number, kind, 60), BAD_VALUE);
             }
             for (int setting : new int[] {0, 501, -1, LEAST, MOST}) {
-                busyRefuses("setValve " + pump + ", setting " + setting, x -> x.setValve(number, 0, setting), BAD_VALUE);
+                busyRefuses("setValve " + pump + ", setting " + setting, x -> x.setValve(number, 0, setting),
+                        BAD_VALUE);
             }
             busyRefuses("setValve " + pump + ", both bad", x -> x.setValve(number, 3, 501), BAD_VALUE);
         }
@@ -289,7 +291,8 @@ public final class RefusalsTest {
     // The state before the text is recorded; but for that a command that fails changes nothing to be undone.
     private static void commandsThatFail() {
         DUE.sentence("a command fails if the method with the same effect would return an error");
-        String[] commands = {"r0", "r9", "h1", "h9", "e2", "e9", "s0=5", "s1=0", "s1=501", "s9=5", "i501", "w0", "w201"};
+        String[] commands = {"r0", "r9", "h1", "h9", "e2", "e9", "s0=5", "s1=0", "s1=501", "s9=5", "i501", "w0",
+            "w201"};
         for (String command : commands) {
             RamStation x = busyWith(command);
             DUE.due("execute of " + command, x.execute(), 0);

@@ -133,7 +133,8 @@ public final class SettingsTest {
     // The speed is 40 more in each tick.
     private static void slamRules() {
         int[][] kindSettingTick = {{0, 40, 1}, {0, 41, 2}, {0, 80, 2}, {0, 81, 3}, {0, 500, 13}, {1, 16, 1},
-            {1, 17, 2}, {1, 64, 2}, {1, 65, 3}, {1, 144, 3}, {1, 145, 4}, {1, 500, 6}, {2, 1, 1}, {2, 3, 3}, {2, 500, 500}};
+            {1, 17, 2}, {1, 64, 2}, {1, 65, 3}, {1, 144, 3}, {1, 145, 4}, {1, 500, 6},
+            {2, 1, 1}, {2, 3, 3}, {2, 500, 500}};
         for (int[] rule : kindSettingTick) {
             RamStation x = withPump();
             x.setValve(0, rule[0], rule[1]);

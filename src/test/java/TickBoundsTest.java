@@ -180,7 +180,8 @@ public final class TickBoundsTest {
 
     private static void gainDiscards() {
         DUE.sentence("2. s + 100 * (supply head) / (drive length)");
-        int[][] headLengthSpeed = {{10, 400, 2}, {11, 400, 2}, {12, 400, 3}, {99, 10, 990}, {10, 300, 3}, {67, 30, 223}};
+        int[][] headLengthSpeed = {{10, 400, 2}, {11, 400, 2}, {12, 400, 3}, {99, 10, 990}, {10, 300, 3},
+            {67, 30, 223}};
         for (int[] row : headLengthSpeed) {
             RamStation x = timed(row[0], row[1], 1, 0, 500, 500);
             x.start(0);
